@@ -1186,10 +1186,14 @@ public final class OrreryTrains {
         private long below = 0;
         private int least = 0;
         private int most = 0;
+        /** A greater wheel of 0 teeth stands for none: there is one PAIR alone. */
         private int lesserDriver = 0;
         private int greaterDriver = 0;
         private int lesserDriven = 0;
         private int greaterDriven = 0;
+        /** What the best train so far TURNS by, less RATIO, is off by (drivens times below). */
+        private long off = 0;
+        private long drivens = 0;
 
         void seek(int a, int b, int fewest, int greatest) {
             // what was sought last is still known, and is often asked wheel by wheel
@@ -1200,7 +1204,9 @@ public final class OrreryTrains {
             below = b;
             least = fewest;
             most = greatest;
-            lesserDriver = 0;
+            // 1 by 0 is farther off than any train
+            off = 1;
+            drivens = 0;
             seekOnePair();
             seekTwoPairs();
         }
@@ -1227,11 +1233,11 @@ public final class OrreryTrains {
         }
 
         long wrongAbove() {
-            return off(product(lesserDriver, greaterDriver), product(lesserDriven, greaterDriven));
+            return off;
         }
 
         long wrongBelow() {
-            return product(lesserDriven, greaterDriven) * below;
+            return drivens * below;
         }
 
         private void seekOnePair() {
@@ -1264,22 +1270,22 @@ public final class OrreryTrains {
         }
 
         private void offer(int driver, int otherDriver, int driven, int otherDriven) {
-            if (lesserDriver == 0 || isBetter(driver, otherDriver, driven, otherDriven)) {
+            long newDrivens = product(driven, otherDriven);
+            long newOff = product(driver, otherDriver) * below - above * newDrivens;
+            long far = Math.abs(newOff) * drivens;
+            long farSoFar = Math.abs(off) * newDrivens;
+            if (far < farSoFar || far == farSoFar && isAhead(driver, otherDriver, driven, otherDriven)) {
                 lesserDriver = driver;
                 greaterDriver = otherDriver;
                 lesserDriven = driven;
                 greaterDriven = otherDriven;
+                off = newOff;
+                drivens = newDrivens;
             }
         }
 
-        private boolean isBetter(int driver, int otherDriver, int driven, int otherDriven) {
-            long drivens = product(driven, otherDriven);
-            long offered = Math.abs(off(product(driver, otherDriver), drivens));
-            long here = offered * product(lesserDriven, greaterDriven);
-            long there = Math.abs(wrongAbove()) * drivens;
-            if (here != there) {
-                return here < there;
-            }
+        /** Whether of two that are as near this one is ahead of the best so far. */
+        private boolean isAhead(int driver, int otherDriver, int driven, int otherDriven) {
             if ((otherDriver == 0) != isOnePair()) {
                 return otherDriver == 0;
             }
@@ -1287,27 +1293,16 @@ public final class OrreryTrains {
             if (teeth != allTeeth()) {
                 return teeth < allTeeth();
             }
-            return isEarlier(driver, otherDriver, driven, otherDriven);
-        }
-
-        private boolean isEarlier(int driver, int otherDriver, int driven, int otherDriven) {
             if (driver != lesserDriver) {
                 return driver < lesserDriver;
             }
             if (otherDriver != greaterDriver) {
                 return otherDriver < greaterDriver;
             }
-            if (driven != lesserDriven) {
-                return driven < lesserDriven;
-            }
-            return otherDriven < greaterDriven;
+            // the greater DRIVEN is told by the others when all teeth are as many
+            return driven < lesserDriven;
         }
 
-        private long off(long drivers, long drivens) {
-            return drivers * below - above * drivens;
-        }
-
-        /** A second wheel of 0 teeth stands for none. */
         private static long product(int wheel, int other) {
             return other == 0 ? wheel : (long) wheel * other;
         }

@@ -218,6 +218,11 @@ public final class OddsPlansTest {
         Due.is("ends(0) on again", x.ends(0), 4);
         Due.is("ends(10) on again", x.ends(10), 5333333);
         Due.is("ends(11) on again", x.ends(11), 16000000);
+        x.plan(-1, 0);
+        x.drop(0);
+        x.plan(1, 0);
+        Due.is("ends(11) where a body without a train is turned about", x.ends(11), 8000000);
+        Due.is("ends(0) there", x.ends(0), 2);
     }
 
     private static void promise34EndsHeld() {

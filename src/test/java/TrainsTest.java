@@ -15,6 +15,7 @@ public final class TrainsTest {
         promise22OrderOfThree();
         promise23Found();
         promise23FoundOfLikeOnes();
+        promise23FoundFollows();
         promise24FoundWrong();
         Due.end();
     }
@@ -362,6 +363,28 @@ public final class TrainsTest {
     private static void foundOff(OrreryTrains x, int body, long above, long below) {
         Due.is("foundWrong above of " + body, x.foundWrong(body, 0), above);
         Due.is("foundWrong below of " + body, x.foundWrong(body, 1), below);
+    }
+
+    /** One of RATIO and BOUNDS alone becomes another between two calls. */
+    private static void promise23FoundFollows() {
+        OrreryTrains x = new OrreryTrains();
+        x.body(1, 1);
+        x.body(3, 2);
+        found(x, 0, 1, 40, 20, 20);
+        found(x, 1, 1, 50, 30, 20);
+        found(x, 0, 1, 40, 20, 20);
+        x.ratio(0, 2, 1);
+        found(x, 0, 2, 99, 28, 20, 30, 21);
+        x.ratio(0, 3, 1);
+        found(x, 0, 2, 100, 30, 20, 30, 20);
+        x.ratio(0, 3, 2);
+        found(x, 0, 1, 50, 30, 20);
+        x.bounds(20, 29);
+        found(x, 0, 2, 89, 24, 20, 25, 20);
+        x.bounds(22, 29);
+        found(x, 0, 2, 98, 25, 22, 29, 22);
+        x.bounds(22, 34);
+        found(x, 0, 1, 55, 33, 22);
     }
 
     private static void promise24FoundWrong() {
