@@ -15,8 +15,10 @@ public final class CrankTest {
     }
 
     private static void crankTo(OrreryTrains x, int turn) {
-        for (int guard = 0; guard < 300 && x.crank(0) != turn + 10000; guard++) {
-            x.turn(Math.max(-99, Math.min(99, turn + 10000 - x.crank(0))));
+        for (int left = turn + 10000 - x.crank(0); left != 0;) {
+            int v = Math.max(-99, Math.min(99, left));
+            x.turn(v);
+            left -= v;
         }
         Due.is("crank(0) at " + turn, x.crank(0), turn + 10000);
     }

@@ -2,6 +2,7 @@
 final class Due {
     private static int asked = 0;
     private static int wrong = 0;
+    private static String about = "";
 
     private Due() {
     }
@@ -10,8 +11,17 @@ final class Due {
         asked++;
         if (got != want) {
             wrong++;
-            System.out.println(call + " answered " + got + ", due is " + want);
+            System.out.println((about.isEmpty() ? "" : "[" + about + "] ") + call + " answered " + got + ", due is " + want);
         }
+    }
+
+    /** What the answers behind this call are about; it is printed with each that is not as due. */
+    static void about(String words) {
+        about = words;
+    }
+
+    static int asked() {
+        return asked;
     }
 
     /** Three bodies; a turns by 20 to 30, b by 24 to 12, c (crowned) by 33 to 11, d by 17 to 51. */

