@@ -560,6 +560,9 @@ final class TrainsEdges {
         Due.is("3 by 2 from 21", x.found(0, 1), 100);
         x.bounds(21, 33);
         Due.is("3 by 2 to 33", x.found(0, 1), 55);
+        x.bounds(20, 30);
+        x.ratio(0, 9999, 1);
+        Due.is("far beyond all trains", x.found(0, 1), 100);
     }
 
     private static void termsOfFound() {
